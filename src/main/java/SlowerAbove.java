@@ -197,7 +197,11 @@ public final class SlowerAbove {
         if (!isThing(one) || !isThing(other)) {
             return NOT_SO;
         }
-        return Long.compare(scene.crowd.ages[one], scene.crowd.ages[other]);
+        long more = scene.crowd.ages[one] - scene.crowd.ages[other];
+        if (more == 0) {
+            return 0;
+        }
+        return more > 0 ? 1 : -1;
     }
 
     public boolean go(int thing, int stair) {

@@ -117,7 +117,7 @@ public final class SlowerAbovePromises {
         "floor 1 1;;", ";floor 1 1", "floor -1 1", "floor 1 1 thing 0", "floor 1 1;thing 1", "flo", "floor 1 1;to 1",
         "floor 1 1;floor 1 1;stair 0 1 0 1 1", "floor 1 1;floor 1 1;stair 0 1 10 1 1",
         "floor 1 1;floor 1 1;stair 0 1 9 0 1", "floor 1 1;floor 1 1;stair 0 1 9 1 21", "floor 1 1;floor 1 1;stair 0 1 9 1",
-        "floor 1 1" + (char) 0, "floor 1 1" + (char) 255, "floor" + (char) 160 + "1 1", "floor 1 1234567 x", "floor 1 1 1234567"};
+        "floorz 1 1", "flooraz 1 1", "floor 1 1" + (char) 0, "floor 1 1" + (char) 255, "floor" + (char) 160 + "1 1", "floor 1 1234567 x", "floor 1 1 1234567"};
     int[] due = {
         fault(5, 0), fault(6, 1), fault(6, 1), fault(7, 0), fault(8, 1), fault(8, 1), fault(6, 1), fault(6, 1),
         fault(18, 1), fault(18, 1), fault(16, 1), fault(10, 0),
@@ -125,7 +125,7 @@ public final class SlowerAbovePromises {
         fault(10, 0), fault(0, 0), fault(6, 0), fault(10, 0), fault(16, 1), fault(0, 0), fault(10, 0),
         fault(30, 1), fault(30, 1),
         fault(32, 1), fault(34, 1), fault(33, 0),
-        fault(9, 0), fault(9, 0), fault(5, 0), fault(8, 1), fault(10, 0)};
+        fault(0, 0), fault(0, 0), fault(9, 0), fault(9, 0), fault(5, 0), fault(8, 1), fault(10, 0)};
     for (int i = 0; i < texts.length; i++) due("tower \"" + texts[i] + "\"", tower(x, texts[i]), due[i]);
   }
 
@@ -200,6 +200,11 @@ public final class SlowerAbovePromises {
     due("11 brackets", rule(x, head + "[".repeat(11) + "age=1" + "]".repeat(11)), fault(18, 2));
     due("11 nots", rule(x, head + "not ".repeat(11) + "age=1"), fault(48, 2));
     due("10 nots and a bracket", rule(x, head + "not ".repeat(10) + "[age=1]"), fault(48, 2));
+    due("as deep behind nots", rule(x, head + "not not age=1 or " + "[".repeat(11)), fault(35, 2));
+    due("as deep behind brackets", rule(x, head + "[[age=1]] or " + "not ".repeat(11)), fault(61, 2));
+    due("99999 stands", rule(x, head + "99999 = x"), fault(16, 0));
+    due("a full tape", rule(x, "to 1" + " ".repeat(394) + ";;"), fault(399, 0));
+    due("a full tape, its end", rule(x, "to 1" + " ".repeat(395) + ";"), fault(400, 0));
     due("deep behind a fact", rule(x, head + "[".repeat(10) + "age=1 or not age=1" + "]".repeat(10)), fault(27, 2));
     due("a 61st value", rule(x, head + "1+".repeat(58) + "1=1"), fault(126, 3));
     due("a 61st that is a sign", rule(x, head + "1+".repeat(59) + "1<=1"), fault(127, 3));
@@ -425,6 +430,17 @@ public final class SlowerAbovePromises {
     due("next(0, 0)", x.next(0, 0), -2);
     due("next(4, 0)", x.next(4, 0), -1);
     due("next(0, -1)", x.next(0, -1), -1);
+    SlowerAbove line = with("floor 1 1;".repeat(10) + "stair 9 0 9 1 1;stair 0 8 9 1 1;stair 8 1 9 1 1;stair 1 7 9 1 1;stair 7 2 9 1 1;"
+        + "stair 2 6 9 1 1;stair 6 3 9 1 1;stair 3 5 9 1 1;stair 5 4 9 1 1");
+    due("the farthest", line.far(9, 4), 81);
+    due("the farthest", line.far(4, 9), 81);
+    due("its first stair", line.next(4, 9), 8);
+    due("its first stair", line.next(9, 4), 0);
+    due("over floor 0", line.far(9, 8), 18);
+    due("to floor 0", line.far(4, 0), 72);
+    promise = 28;
+    due("all are needed", line.needed(), 511);
+    promise = 15;
     SlowerAbove y = with("floor 1 1;floor 1 1;stair 1 0 3 1 1;stair 0 1 3 1 1");
     due("the least of two", y.next(0, 1), 0);
   }
@@ -542,6 +558,18 @@ public final class SlowerAbovePromises {
     due("unknown, also where it can't be", y.ripe(0, 0, 16, 999, 999), -3);
     // one floor alone has one state an hour
     due("few states", with("floor 20 19").ripe(0, 0, 16, 0, 999), 0);
+    // counted by a program of its own: just 4000 in all hours from 0 to 15, and just 4001 from 0 to 8
+    SlowerAbove most = with("floor 11 4;floor 8 19;floor 19 16;stair 1 0 3 9 15;stair 1 2 2 9 17;stair 2 1 1 4 19");
+    due("4000 states", most.ripe(0, 0, 15, 0, 999), 0);
+    due("4000 states and more", most.ripe(0, 0, 16, 0, 999), -3);
+    SlowerAbove more = with("floor 10 19;floor 8 20;floor 6 8;floor 9 17;stair 0 2 2 17 16;stair 3 2 1 12 15;stair 3 1 1 14 20;"
+        + "stair 0 1 1 11 2;stair 0 1 3 19 4;stair 0 1 1 8 5");
+    due("4001 states", more.ripe(0, 0, 8, 0, 999), -3);
+    due("fewer", more.ripe(0, 0, 7, 0, 999), 0);
+    SlowerAbove wide = with("floor 1 1;".repeat(10) + "stair 8 9 1 1 1;" + "stair 0 9 1 2 1;".repeat(11) + "thing 9");
+    due("ten floors, 16 hours", wide.ripe(8, 9, 16, 16, 16), 1);
+    due("twelve stairs at one floor", wide.ripe(9, 0, 1, 2, 2), 1);
+    due("twelve stairs at one floor", wide.ripe(9, 8, 1, 1, 1), 1);
     statesAtTheLimit();
   }
 
@@ -596,6 +624,7 @@ public final class SlowerAbovePromises {
     // 9999 + 9999 * 999 * 199980 / 24000 = 83243349 and 333/400
     due("the most, above", y.owed(0, 9999, 999, 9999, 0), 33297339933L);
     due("the most, below", y.owed(0, 9999, 999, 9999, 1), 400);
+    due("coins 1", x.owed(0, 1, 0, 0, 0), 1);
     due("coins 0", x.owed(0, 0, 1, 1, 0), -1);
     due("coins 10000", x.owed(0, 10000, 1, 1, 0), -1);
     due("thousandths -1", x.owed(0, 1, -1, 1, 0), -1);
@@ -610,6 +639,7 @@ public final class SlowerAbovePromises {
     SlowerAbove x = with("floor 1 1;floor 1 2;floor 20 1;floor 1 20");
     due("one", x.hands(0, 0, 5, 5), 1);
     due("upwards", x.hands(0, 0, 6, 5), 2);
+    due("just above", x.hands(0, 0, 9999, 9998), 2);
     // one above waits 5 of his own, which are 10 below
     due("while one waits above", x.hands(0, 1, 10, 5), 1);
     due("while one waits above", x.hands(0, 1, 11, 5), 2);
@@ -694,6 +724,8 @@ public final class SlowerAbovePromises {
     due("-1", x.noonsIn(0, -1, 1), -1);
     due("10000", x.noonsIn(0, 1, 10000), -1);
     due("no floor", x.noonsIn(3, 0, 1), -1);
+    due("at the first hour", x.noonsIn(0, 36, 40), 1);
+    due("at the last hour", x.noonsIn(0, 30, 36), 1);
     SlowerAbove y = with("floor 20 1");
     due("fast: 12/20, 36/20 and so on", y.noonsIn(0, 0, 3), 3);
   }
@@ -797,6 +829,10 @@ public final class SlowerAbovePromises {
     x.letter(1, 1, 11); // sent at 5.5, comes at 11
     // behind the second it comes later but was sent before; before the first, which was sent before it
     due("three", x.crossed(), 3);
+    SlowerAbove y = with("floor 1 1;floor 1 2;stair 0 1 3 1 1");
+    y.letter(0, 0, 6);
+    y.letter(1, 0, 10);
+    due("the first comes before, but was sent after", y.crossed(), 1);
   }
 
   private static void order() {
@@ -853,6 +889,24 @@ public final class SlowerAbovePromises {
     due("one hour", y.meetings(0, 1, 1, 1, 0), second % 2 == fourth % 2 ? 1 : 0);
     due("four draws", y.count(8), drawn(0, 4));
     due("all is as it was", y.thing(0, 0) + y.thing(1, 0) + y.count(4) + y.age(0, 0), 0);
+    meetingsByPlace();
+  }
+
+  /** The first thing's floor has three stairs of five; the second comes to it by the only one of its own. */
+  private static void meetingsByPlace() {
+    SlowerAbove x = with("floor 1 1;floor 1 1;floor 1 1;floor 1 1;floor 1 1;stair 3 4 1 1 1;stair 0 1 1 1 1;stair 2 0 1 1 1;"
+        + "stair 4 3 1 1 1;stair 0 3 1 1 1;thing 0;thing 2");
+    int[] ends = {1, 2, 3};
+    for (int seed = 0; seed < 300; seed++) {
+      int draws = 0;
+      int one = 0;
+      int other = 2;
+      if (drawn(seed, ++draws) / 65536 % 4 == 0) one = ends[drawn(seed, ++draws) / 65536 % 3];
+      if (drawn(seed, ++draws) / 65536 % 4 == 0) { draws++; other = 0; }
+      x.seed(seed);
+      due("meetings of " + seed, x.meetings(0, 1, 1, 1, seed % 2), one == other ? 1 : 0);
+      due("draws of " + seed, x.count(8), drawn(seed, draws));
+    }
   }
 
   private static void count() {
@@ -865,6 +919,11 @@ public final class SlowerAbovePromises {
     x.feed(1, 2, 3, 4, 5);
     int[] due = {3, 2, 2, 1, 9, 2, 1, 1, 42, 20};
     for (int what = 0; what <= 9; what++) due("count(" + what + ")", x.count(what), due[what]);
+    x.tick(-1, 2);
+    due("none on stairs", x.count(7), 0);
+    x.go(0, 1);
+    x.go(1, 1);
+    due("two on stairs", x.count(7), 2);
     due("count(10)", x.count(10), -1);
     due("count(-1)", x.count(-1), -1);
   }
