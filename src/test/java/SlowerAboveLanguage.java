@@ -129,6 +129,7 @@ public final class SlowerAboveLanguage {
     IdentityHashMap<Object, Boolean> seen = new IdentityHashMap<>();
     long elements = walk(new SlowerAbove(), seen);
     must(seen.size() <= 200, "a new object is few objects, not " + seen.size());
+    System.out.println("a new object: " + seen.size() + " objects, " + elements + " fields and elements");
     must(elements <= 20000, "a new object has few fields and elements, not " + elements);
     use(new SlowerAbove());
     SlowerAbove x = new SlowerAbove();
