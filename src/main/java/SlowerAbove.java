@@ -119,13 +119,15 @@ public final class SlowerAbove {
     }
 
     public int tower() {
-        if (!towerReader.read()) {
+        boolean isTold = towerReader.read();
+        // A fault keeps the tower that there was, not the text that was to take its place.
+        tape.size = 0;
+        if (!isTold) {
             return NOT_SO - tape.fault;
         }
         scene.tower.copyFrom(spareTower);
         scene.crowd.copyFrom(spareCrowd);
         scene.post.size = 0;
-        tape.size = 0;
         return scene.tower.floors;
     }
 
@@ -133,11 +135,12 @@ public final class SlowerAbove {
         if (ruleCount >= MOST_RULES) {
             return NONE;
         }
-        if (!ruleReader.read()) {
+        boolean isTold = ruleReader.read();
+        tape.size = 0;
+        if (!isTold) {
             return NOT_SO - tape.fault;
         }
         rules[ruleCount].copyFrom(ruleReader.rule);
-        tape.size = 0;
         ruleCount++;
         return ruleCount - 1;
     }

@@ -94,11 +94,14 @@ public final class SlowerAbovePromises {
     x.seed(77);
     tell(x, "floor 1 0");
     due("a fault", x.tower(), fault(8, 1));
-    due("the tape stays", x.count(9), 9);
+    due("the tape is empty behind a fault", x.count(9), 0);
+    due("feed behind a fault", x.feed(0, 0, 0, 0, 0), 20);
+    due("the fault of what came since", x.tower(), fault(0, 0));
     due("now stays", x.count(4), 5);
     due("letters stay", x.count(5), 1);
     due("floors stay", x.count(0), 3);
     due("ages stay", x.age(0, 0), 5);
+    due("x stays at a fault", x.count(8), 77);
     due("another tower", tower(x, "floor 2 4"), 1);
     due("now", x.count(4), 0);
     due("letters", x.count(5), 0);
@@ -157,6 +160,8 @@ public final class SlowerAbovePromises {
     tell(x, "to 1 if");
     due("a fault", x.rule(), fault(7, 0));
     due("no rule", x.count(3), 0);
+    due("feed behind a fault", x.feed(0, 0, 0, 0, 0), 20);
+    due("the fault of what came since", x.rule(), fault(0, 0));
     ruleFaults(x);
     ruleLimits(x);
     due("a rule", rule(x, " to3if age<3and not[now>=2or here=1*2/3-4+5];to 9 "), 0);
@@ -172,6 +177,7 @@ public final class SlowerAbovePromises {
     due("the tape stays", x.count(9), 4);
     tell(x, "to x");
     due("there are 6, with a fault", x.rule(), -1);
+    due("the tape stays then, too", x.count(9), 4);
     due("a tower leaves the rules", tower(x, "floor 1 1") + x.count(3), 7);
   }
 
@@ -194,7 +200,7 @@ public final class SlowerAbovePromises {
         fault(17, 0), fault(8, 0), fault(12, 0)};
     for (int i = 0; i < texts.length; i++) {
       due("rule \"" + texts[i] + "\"", rule(x, texts[i]), due[i]);
-      due("the tape stays", x.count(9), texts[i].length());
+      due("the tape is empty behind a fault", x.count(9), 0);
     }
   }
 
