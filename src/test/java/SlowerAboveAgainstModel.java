@@ -858,7 +858,8 @@ public final class SlowerAboveAgainstModel {
     void all() {
       if (r.nextInt(10) != 0) { tower(); rule(); rule(); }
       if (r.nextInt(8) == 0) for (int i = 0; i < 49; i++) same("tick(-1, 200)", x.tick(-1, 200), m.tick(-1, 200));
-      while (calls < 480) {
+      // one() has up to 23 calls and counts() 12, and an object is used for 512 at most
+      while (calls < 465) {
         one();
         if (r.nextInt(30) == 0) counts();
       }

@@ -12,12 +12,13 @@ import java.util.ArrayList;
 import java.util.Arrays;
 import java.util.IdentityHashMap;
 import java.util.List;
+import java.util.Random;
 import java.util.Set;
 import java.util.TreeSet;
 import java.util.regex.Matcher;
 import java.util.regex.Pattern;
 
-/** The rules of LANGUAGE.md that a program can look at: the face, the words, the sizes, the room. */
+/** The rules of LANGUAGE.md that a program can look at: the face, the words, the sizes, the room, and that no call throws. */
 public final class SlowerAboveLanguage {
   private static int wrong = 0;
 
@@ -188,10 +189,90 @@ public final class SlowerAboveLanguage {
     }
   }
 
+  private static void tell(SlowerAbove x, byte[] text) {
+    x.end(0);
+    for (int i = 0; i < text.length; i += 20) {
+      int[] v = new int[5];
+      for (int j = 0; j < 20 && i + j < text.length; j++) v[j / 4] |= (text[i + j] & 255) << (24 - 8 * (j % 4));
+      x.feed(v[0], v[1], v[2], v[3], v[4]);
+    }
+    x.end(text.length);
+  }
+
+  private static void tell(SlowerAbove x, String text) { tell(x, text.getBytes(StandardCharsets.ISO_8859_1)); }
+
+  /** Objects in unlike states: new, with a tower alone, and with all that can be full. */
+  private static SlowerAbove inState(int state) {
+    SlowerAbove x = new SlowerAbove();
+    if (state == 0) return x;
+    tell(x, state == 1 ? "floor 1 1;floor 9 10;floor 1 2;stair 0 1 2 1 1;thing 0;thing 1"
+        : "floor 20 19;".repeat(10) + "stair 0 9 1 1 20;".repeat(11) + "stair 8 9 9 20 1;thing 9;thing 8");
+    x.tower();
+    if (state == 1) return x;
+    for (int r = 0; r < 6; r++) {
+      tell(x, "to 9 if oldest * 99999 * 99999 * 99999 * 99999 / here < 0;to " + r);
+      x.rule();
+    }
+    for (int i = 0; i < 12; i++) x.letter(8, 9, 9999);
+    for (int i = 0; i < 49; i++) x.tick(i % 6, 200);
+    x.tick(0, 199);
+    x.go(0, 3);
+    x.seed(Integer.MAX_VALUE);
+    for (int k = 0; k < 4; k++) x.image(k);
+    for (int i = 0; i < 20; i++) x.feed(-1, 0, 0, 0, -1);
+    return x;
+  }
+
+  /** Rule 7: whichever numbers it is given, in whichever state, no call throws (it would end this test). */
+  private static void anyNumbers() throws ReflectiveOperationException {
+    int[] numbers = {Integer.MIN_VALUE, -2, -1, 0, 1, 9, 16, 200, 9999, Integer.MAX_VALUE};
+    for (int state = 0; state < 3; state++) {
+      for (Method m : SlowerAbove.class.getDeclaredMethods()) {
+        if (!Modifier.isPublic(m.getModifiers())) continue;
+        int count = m.getParameterCount();
+        SlowerAbove x = inState(state);
+        int calls = 0;
+        for (int code = 0; code < Math.pow(numbers.length, count); code++) {
+          Object[] given = new Object[count];
+          int left = code;
+          for (int i = 0; i < count; i++) {
+            int number = numbers[left % numbers.length];
+            given[i] = m.getParameterTypes()[i] == boolean.class ? (Object) (number < 1) : (Object) number;
+            left /= numbers.length;
+          }
+          if (++calls > 300) { x = inState(state); calls = 0; }
+          m.invoke(x, given);
+        }
+      }
+    }
+  }
+
+  /** And whichever text: words, signs and bytes thrown together. */
+  private static void anyTexts() {
+    String[] parts = {"floor", "stair", "thing", "to", "if", "not", "and", "or", "now", "age", "here", "rate", "oldest", "youngest", "[", "]", "<", "<=", "=",
+        ">=", ">", "+", "-", "*", "/", ";", " ", "0", "1", "2", "9", "20", "99999", "100000", "x", "" + (char) 0, "" + (char) 255, "floor 1 1;", "to 1 if "};
+    Random random = new Random(7);
+    for (int i = 0; i < 20000; i++) {
+      StringBuilder b = new StringBuilder(i % 3 == 0 ? "to 1 if " : i % 3 == 1 ? "floor 1 1;floor 2 3;" : "");
+      int first = random.nextInt(parts.length), some = 1 + random.nextInt(parts.length);
+      int size = 1 + random.nextInt(400);
+      while (b.length() < size) b.append(parts[(first + random.nextInt(some)) % parts.length]);
+      SlowerAbove x = new SlowerAbove();
+      b.setLength(Math.min(b.length(), 400));
+      tell(x, b.toString());
+      must(x.tower() != -1, "a tower or its fault");
+      tell(x, b.toString());
+      must(x.rule() != -1, "a rule or its fault");
+      x.tick(0, 5);
+    }
+  }
+
   public static void main(String[] args) throws Exception {
     face();
     source();
     room();
+    anyNumbers();
+    anyTexts();
     System.out.println(wrong == 0 ? "the language is kept to" : wrong + " rules are not kept to");
     if (wrong != 0) System.exit(1);
   }
