@@ -146,7 +146,11 @@ public final class SlowerAboveBoundaries {
     for (int s = 0; s < stairs; s++) for (int what = 0; what < 5; what++) seen.add((long) x.stair(s, what));
     for (int l = 0; l < letters; l++) for (int what = 0; what < 5; what++) seen.add((long) x.letters(l, what));
     for (int r = 0; r < rules; r++) for (int t = 0; t < things; t++) seen.add(x.ahead(r, 3, t, 1));
+    for (int f = 0; f < floors; f++) for (int g = 0; g < f; g++) { seen.add((long) x.far(f, g)); seen.add((long) x.next(f, g)); }
+    for (int t = 0; t < things; t++) { seen.add(x.plan(t, 0, 9, true, 0)); seen.add((long) x.waiting(t, 9, false)); }
+    for (int what = 0; what < 4; what++) seen.add(x.elder(-1, 3, what));
     seen.add((long) x.needed());
+    seen.add((long) x.crossed());
     // of the TAPE one sees what TOWER it is
     seen.add((long) x.tower());
     scene(x, seen);
@@ -161,7 +165,7 @@ public final class SlowerAboveBoundaries {
 
   private static void scene(SlowerAbove x, List<Long> seen) {
     for (int what = 0; what <= 9; what++) seen.add((long) x.count(what));
-    int things = x.count(2);
+    int things = (int) (long) seen.get(seen.size() - 8);
     for (int t = 0; t < things; t++) {
       for (int what = 0; what < 4; what++) seen.add((long) x.thing(t, what));
       seen.add(x.age(t, 0));
@@ -682,6 +686,9 @@ public final class SlowerAboveBoundaries {
     ruleFault("to 1 if now = 1 and ", 20, 0);
     ruleFault("to 1 if now + ", 14, 0);
     ruleFault("to 1 if now = 1]", 15, 0);
+    ruleFault("to 1 if not now = 1]", 19, 0);
+    ruleFault("to 1 if [not now = 1]]", 21, 0);
+    ruleFault("to 1 if [now = 1 and not now = 1]]", 33, 0);
     ruleFault("to 1 if [now = 1]]", 17, 0);
     ruleFault("to 1 if [now] = 1", 12, 0);
     ruleFault("to 1 if []", 9, 0);
@@ -767,6 +774,9 @@ public final class SlowerAboveBoundaries {
     x = with(TWO + "stair 0 1 3 1 1;stair 1 0 2 1 1;stair 0 1 2 1 1");
     due("of two like ones the least", x.next(0, 1), 1);
     due("of two like ones the least", x.next(1, 0), 1);
+    x = with(TWO + TWO + "stair 2 3 5 1 1;stair 2 3 4 1 1;stair 2 3 3 1 1;stair 0 1 4 1 1");
+    due("none that is elsewhere", x.next(0, 1), 3);
+    due("none that is elsewhere", x.next(1, 0), 3);
 
     says(0, "THINGS, by their numbers, that stand");
     x = with(TWO + "stair 0 1 1 1 1;thing 0;thing 0;thing 0", "to 1 if here > 1");
@@ -807,6 +817,15 @@ public final class SlowerAboveBoundaries {
     idle(SlowerAboveBoundaries::world, "go(0, 1)", 0, y -> y.go(0, 1) ? 1 : 0);
     idle(SlowerAboveBoundaries::world, "go(2, 1)", 0, y -> y.go(2, 1) ? 1 : 0);
 
+    says(0, "AHEAD of n HOURS by a RULE (nothing changes)");
+    for (int hours : new int[] {0, 1, 200}) {
+      SlowerAbove y = world();
+      for (int what = 0; what < 4; what++) y.ahead(0, hours, what % 3, what);
+      asItWas("ahead of " + hours, y, SlowerAboveBoundaries::world);
+    }
+    asItWas("what only answers", readAll(world()), SlowerAboveBoundaries::world);
+    asItWas("what only answers", readAll(full()), SlowerAboveBoundaries::full);
+
     says(0, "how many stand on one FLOOR with another one then");
     x = with(TEN + "stair 8 9 9 1 1;thing 0;thing 1;thing 1;thing 2;thing 2;thing 2;thing 8;thing 8", "to 9 if floor = 8", "to 9");
     due("two, three and two", x.ahead(0, 0, 0, 3), 7);
@@ -835,6 +854,15 @@ public final class SlowerAboveBoundaries {
     dueAll("1 and 2 never", new long[] {x.noons(0, 7, 0), x.noons(7, 0, 1)}, -2, -2);
   }
 
+  /** Every call that only answers, none of them refused in world(). */
+  private static SlowerAbove readAll(SlowerAbove x) {
+    x.floor(0, 0); x.stair(0, 0); x.thing(0, 0); x.age(0, 0); x.older(0, 1); x.ahead(0, 9, 0, 1); x.far(0, 2); x.next(0, 2); x.clock(0, 9, 0);
+    x.noons(0, 0, 0); x.plan(0, 2, 99, true, 0); x.plan(0, 0, 99, false, 2); x.even(0, 1, 2, 0, 0); x.ripe(0, 2, 9, 0, 99); x.ripe(0, 0, 16, 0, 999);
+    x.owed(0, 9, 9, 9, 0); x.hands(0, 1, 9, 9); x.waiting(0, 99, true); x.when(0, 0, 99, 0); x.shown(0, 99, 0); x.noonsIn(0, 0, 99); x.due(0, 9);
+    x.needed(); x.elder(0, 99, 2); x.elder(-1, 99, 0); x.letters(0, 4); x.crossed(); x.order(0); x.count(6);
+    return x;
+  }
+
   // ---- Terms: III --------------------------------------------------------------------------------------
 
   private static void plans() {
@@ -846,6 +874,11 @@ public final class SlowerAboveBoundaries {
     dueAll("no hour to go", new long[] {x.plan(0, 1, 0, false, 0), x.plan(0, 1, 0, true, 2)}, -2, -2);
     dueAll("17 hours do not suffice to come back", new long[] {x.plan(0, 0, 17, false, 0), x.plan(0, 0, 17, false, 2)}, 17, -3);
     dueAll("18 do", new long[] {x.plan(0, 0, 18, false, 0), x.plan(0, 0, 18, false, 2)}, 9, 0);
+
+    x.go(0, 0);
+    x.tick(-1, 9);
+    dueAll("from where it has come", new long[] {x.plan(0, 2, 8, false, 0), x.plan(0, 2, 9, false, 0), x.plan(0, 2, 9, false, 2), x.plan(0, 1, 0, false, 2)}, -2, 9, 1, -4);
+    due("from where it has come", x.waiting(0, 8, true), 1);
 
     says(0, "of several that which stays, then the least STAIR");
     x = with(TWO + "stair 1 0 2 1 1;stair 0 1 1 1 1;stair 1 0 1 1 1;thing 0");
@@ -981,7 +1014,8 @@ public final class SlowerAboveBoundaries {
         crossedOf(new int[] {1, 0, 10, 0, 0, 13}), // both come at 13
         crossedOf(new int[] {1, 0, 10, 0, 0, 12}), // 5 and 12, come at 13 and 12
         crossedOf(new int[] {1, 0, 10, 0, 0, 4}), // 5 and 4, come at 13 and 4
-        crossedOf(new int[] {0, 0, 7, 0, 0, 7})}, 1, 1, 0, 0, 1, 0, 0);
+        crossedOf(new int[] {0, 1, 5, 0, 1, 6}), crossedOf(new int[] {0, 1, 6, 0, 1, 5}), // 5 and 6, come at 8 and 9
+        crossedOf(new int[] {0, 0, 7, 0, 0, 7})}, 1, 1, 0, 0, 1, 0, 0, 0, 0);
     x = with("floor 1 1;floor 1 20;stair 0 1 1 1 1");
     for (int i = 0; i < 6; i++) x.letter(1, 1, 100 + i);
     for (int i = 0; i < 6; i++) x.letter(0, 0, 90 + i);
@@ -1139,6 +1173,15 @@ public final class SlowerAboveBoundaries {
       long[] due = meetings(five, new int[] {0, 2}, seed * 7919L, 1, 1);
       x.seed(seed * 7919);
       due("meetings of " + seed * 7919, x.meetings(0, 1, 1, 1, seed % 2), due[seed % 2]);
+      due("x behind it", x.count(8), due[2]);
+    }
+
+    int[][] six = {{0, 1, 5}, {1, 0, 4}, {0, 1, 3}, {1, 0, 2}, {0, 1, 1}, {1, 0, 9}};
+    x = with(TWO + "stair 0 1 5 1 1;stair 1 0 4 1 1;stair 0 1 3 1 1;stair 1 0 2 1 1;stair 0 1 1 1 1;stair 1 0 9 1 1;thing 0;thing 0");
+    for (int seed = 0; seed < 100; seed++) {
+      long[] due = meetings(six, new int[] {0, 0}, seed, 2, 9);
+      x.seed(seed);
+      due("more stairs than floors, " + seed, x.meetings(0, 1, 2, 9, seed % 2), due[seed % 2]);
       due("x behind it", x.count(8), due[2]);
     }
 
@@ -1347,11 +1390,13 @@ public final class SlowerAboveBoundaries {
 
     for (int look = 0; look < 3; look++) {
       x = world();
+      tell(x, "floor 3 7;thing 0;thing 0;thing 0");
       if (look == 0) x.ahead(0, 200, 0, 0);
       if (look == 1) x.elder(1, 200, 0);
       if (look == 2) x.meetings(0, 1, 1, 200, 0);
       due("tower() behind a look", x.tower(), 1);
-      dueAll("NOW, AGE, place", new long[] {x.count(4), x.age(0, 0), x.age(0, 1), x.thing(0, 0), x.thing(0, 2), x.count(7)}, 0, 0, 1, 0, 0, 0);
+      dueAll("NOW, things on stairs", new long[] {x.count(4), x.count(7)}, 0, 0);
+      for (int t = 0; t < 3; t++) dueAll("AGE, place of " + t, new long[] {x.age(t, 0), x.age(t, 1), x.thing(t, 0), x.thing(t, 1), x.thing(t, 2), x.thing(t, 3)}, 0, 1, 0, -1, 0, -1);
     }
 
     says(4, "-2 - its FAULT, and all stays");
@@ -1671,6 +1716,12 @@ public final class SlowerAboveBoundaries {
       idle(() -> with("floor 1 1"), "elder(-1, 0, " + w + ") without things", -1, x -> x.elder(-1, 0, w));
     }
     dueAll("beyond 9999", new long[] {full().elder(5, 200, 0), full().elder(-1, 200, 3)}, 0, 1);
+    SlowerAbove x = world();
+    due("a fault without things", tower(x, "floor 1 1;x"), fault(10, 0));
+    due("there are things", x.elder(-1, 0, 1), 1);
+    x = with("floor 1 1");
+    due("a fault with things", tower(x, "floor 1 1;thing 0;x"), fault(18, 0));
+    due("there are none", x.elder(-1, 0, 1), -1);
   }
 
   private static void post() {
