@@ -33,6 +33,9 @@ public final class SlowerAbove {
     private static final int MOST_RIPE_AGE = 999;
     private static final int MOST_STATES = 4000;
     private static final int MOST_SOURCES = MOST_STAIRS + 1;
+    /** Room for the hours that a good was carried, below its age: they are no more than MOST_RIPE_HOURS. */
+    private static final int CARRIED_BITS = 5;
+    private static final int CARRIED_MASK = 31;
 
     /** 1 to 20 all divide it: in parts of it every time is a whole number, and so stays exact. */
     private static final long WHOLE = 232792560L;
@@ -1604,15 +1607,14 @@ public final class SlowerAbove {
     /**
      * The states of a good: for each hour and floor the ages it can have there, going upwards, each with
      * the fewest hours it was carried. Those of one hour and floor come of sorted rows, which are merged.
+     * An age and the hours below it are one number, so that of one age the least carried comes first.
      */
     private static final class Ripening {
-        final long[] ages = new long[MOST_STATES];
-        final int[] carried = new int[MOST_STATES];
+        final long[] states = new long[MOST_STATES];
         final int[] begins = new int[(MOST_RIPE_HOURS + 1) * MOST_FLOORS + 1];
         final int[] heads = new int[MOST_SOURCES];
         final int[] ends = new int[MOST_SOURCES];
-        final long[] agings = new long[MOST_SOURCES];
-        final int[] carryings = new int[MOST_SOURCES];
+        final long[] gains = new long[MOST_SOURCES];
         int size = 0;
         int sources = 0;
 
@@ -1623,7 +1625,7 @@ public final class SlowerAbove {
                 for (int at = 0; at < tower.floors; at++) {
                     int begin = size;
                     begins[hour * tower.floors + at] = begin;
-                    boolean isRoom = hour > 0 || at != from || keep(begin, 0, 0);
+                    boolean isRoom = hour > 0 || at != from || keep(begin, stateOf(0, 0));
                     gatherSources(tower, hour, at);
                     if (!isRoom || !merge(begin)) {
                         return false;
@@ -1634,71 +1636,81 @@ public final class SlowerAbove {
             return true;
         }
 
+        private static long stateOf(long age, int carried) {
+            return age << CARRIED_BITS | carried;
+        }
+
+        private static long ageOf(long state) {
+            return state >> CARRIED_BITS;
+        }
+
+        private static int carriedOf(long state) {
+            return (int) (state & CARRIED_MASK);
+        }
+
         private void gatherSources(Tower tower, int hour, int at) {
             sources = 0;
             if (hour >= 1) {
-                addSource((hour - 1) * tower.floors + at, tower.floorPace[at], 0);
+                addSource((hour - 1) * tower.floors + at, stateOf(tower.floorPace[at], 0));
             }
             for (int stair = 0; stair < tower.stairs; stair++) {
                 int end = tower.otherEnd(stair, at);
                 int hours = tower.stairHours[stair];
                 if (end >= 0 && hours <= hour) {
-                    addSource((hour - hours) * tower.floors + end, hours * tower.stairPace[stair], hours);
+                    addSource((hour - hours) * tower.floors + end, stateOf(hours * tower.stairPace[stair], hours));
                 }
             }
         }
 
-        private void addSource(int slot, long aging, int carrying) {
+        private void addSource(int slot, long gain) {
             if (sources < MOST_SOURCES && begins[slot] < begins[slot + 1]) {
                 heads[sources] = begins[slot];
                 ends[sources] = begins[slot + 1];
-                agings[sources] = aging;
-                carryings[sources] = carrying;
+                gains[sources] = gain;
                 sources++;
             }
         }
 
         private boolean merge(int begin) {
             for (int i = 0; i <= MOST_SOURCES * MOST_STATES; i++) {
-                int source = youngestSource();
+                int source = leastSource();
                 if (source < 0) {
                     return true;
                 }
                 int head = heads[source];
                 heads[source]++;
-                if (!keep(begin, ages[head] + agings[source], carried[head] + carryings[source])) {
+                if (!keep(begin, states[head] + gains[source])) {
                     return false;
                 }
             }
             return false;
         }
 
-        private int youngestSource() {
+        private int leastSource() {
             int found = NONE;
             long least = 0;
             for (int source = 0; source < sources; source++) {
                 if (heads[source] >= ends[source]) {
                     continue;
                 }
-                long age = ages[heads[source]] + agings[source];
-                if (found < 0 || age < least) {
+                long state = states[heads[source]] + gains[source];
+                if (found < 0 || state < least) {
                     found = source;
-                    least = age;
+                    least = state;
                 }
             }
             return found;
         }
 
-        private boolean keep(int begin, long age, int hoursCarried) {
-            if (size > begin && ages[size - 1] == age) {
-                carried[size - 1] = Math.min(carried[size - 1], hoursCarried);
+        private boolean keep(int begin, long state) {
+            // What has this age already came first, and so was carried no longer.
+            if (size > begin && ageOf(states[size - 1]) == ageOf(state)) {
                 return true;
             }
             if (size >= MOST_STATES) {
                 return false;
             }
-            ages[size] = age;
-            carried[size] = hoursCarried;
+            states[size] = state;
             size++;
             return true;
         }
@@ -1707,9 +1719,9 @@ public final class SlowerAbove {
             int found = NOT_SO;
             int slot = hours * tower.floors + to;
             for (int i = begins[slot]; i < begins[slot + 1]; i++) {
-                boolean isRipe = ages[i] >= least && ages[i] <= most;
-                if (isRipe && (found < 0 || carried[i] < found)) {
-                    found = carried[i];
+                boolean isRipe = ageOf(states[i]) >= least && ageOf(states[i]) <= most;
+                if (isRipe && (found < 0 || carriedOf(states[i]) < found)) {
+                    found = carriedOf(states[i]);
                 }
             }
             return found;

@@ -20,6 +20,10 @@ import java.util.regex.Pattern;
 
 /** The rules of LANGUAGE.md that a program can look at: the face, the words, the sizes, the room, and that no call throws. */
 public final class SlowerAboveLanguage {
+  private static final int ROOM_OBJECTS = 600_000;
+  private static final int ROOM_ELEMENTS = 7_300_000;
+  private static final int MOST_CALLS = 512;
+
   private static int wrong = 0;
 
   private static void must(boolean isSo, String what) {
@@ -129,9 +133,10 @@ public final class SlowerAboveLanguage {
   private static void room() throws IllegalAccessException {
     IdentityHashMap<Object, Boolean> seen = new IdentityHashMap<>();
     long elements = walk(new SlowerAbove(), seen);
-    must(seen.size() <= 200, "a new object is few objects, not " + seen.size());
     System.out.println("a new object: " + seen.size() + " objects, " + elements + " fields and elements");
-    must(elements <= 20000, "a new object has few fields and elements, not " + elements);
+    // The constructor is the dearest call: the room must hold as many new objects as an object has calls.
+    must(seen.size() <= ROOM_OBJECTS / MOST_CALLS, "a new object is few objects, not " + seen.size());
+    must(elements <= ROOM_ELEMENTS / MOST_CALLS, "a new object has few fields and elements, not " + elements);
     use(new SlowerAbove());
     SlowerAbove x = new SlowerAbove();
     com.sun.management.ThreadMXBean threads = (com.sun.management.ThreadMXBean) ManagementFactory.getThreadMXBean();
