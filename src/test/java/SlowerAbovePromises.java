@@ -579,6 +579,10 @@ public final class SlowerAbovePromises {
     due("ten floors, 16 hours", wide.ripe(8, 9, 16, 16, 16), 1);
     due("twelve stairs at one floor", wide.ripe(9, 0, 1, 2, 2), 1);
     due("twelve stairs at one floor", wide.ripe(9, 8, 1, 1, 1), 1);
+    // Of one age, 3, by stair 0 alone (3 hours), or 2 hours laid and then by stair 1; and the other way round.
+    due("the least carried of one age", with("floor 1 1;floor 1 2;stair 0 1 3 1 1;stair 0 1 1 1 1").ripe(0, 1, 3, 3, 3), 1);
+    due("the least carried of one age", with("floor 1 1;floor 1 2;stair 0 1 1 1 1;stair 0 1 3 1 1").ripe(0, 1, 3, 3, 3), 1);
+    due("carried for all 16 hours", with("floor 1 20;floor 1 20;stair 0 1 8 20 1").ripe(0, 0, 16, 320, 320), 16);
     statesAtTheLimit();
   }
 
